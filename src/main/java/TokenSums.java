@@ -862,22 +862,17 @@ public final class TokenSums {
             net.clear();
             advance();
             // Each line takes bytes, so there are never more lines than bytes.
-            for (int lines = 0; lines < MOST_BYTES && sort != END; lines++) {
-                if (!readLine(net)) {
-                    return false;
+            boolean good = true;
+            for (int lines = 0; lines < MOST_BYTES && good && sort != END; lines++) {
+                if (sort == WORD && word == PLACE) {
+                    good = readPlace(net);
+                } else if (sort == WORD && word == STEP) {
+                    good = readStep(net);
+                } else {
+                    good = refuse(2);
                 }
             }
-            return true;
-        }
-
-        private boolean readLine(Net net) {
-            if (sort == WORD && word == PLACE) {
-                return readPlace(net);
-            }
-            if (sort == WORD && word == STEP) {
-                return readStep(net);
-            }
-            return refuse(2);
+            return good;
         }
 
         private boolean readPlace(Net net) {
