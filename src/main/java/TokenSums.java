@@ -512,9 +512,10 @@ public final class TokenSums {
         return yes ? 1 : 0;
     }
 
+    /** The number of the k-th bit that is set, NONE if there is none such. */
     private static int bitAt(int bits, int k) {
         int left = k;
-        for (int i = 0; i < MOST_STEPS; i++) {
+        for (int i = 0; i < MOST_PLACES; i++) {
             if ((bits >> i & 1) == 0) {
                 continue;
             }
@@ -674,7 +675,7 @@ public final class TokenSums {
             return bits;
         }
 
-        /** Whether a step can be done in the marking that stands in a row of numbers from 'at' on. */
+        /** Whether a step can be done in the marking that stands in a row from 'at' on. */
         private boolean allows(int step, int[] row, int at) {
             if (!hasStep(step)) {
                 return false;
@@ -1100,7 +1101,7 @@ public final class TokenSums {
             return ofSteps ? net.hasStep(unit) : net.hasPlace(unit);
         }
 
-        /** Lays a unit's row behind the first 'size' ones, which are independent, and reduces it. */
+        /** Lays a unit's row behind the first 'size' ones, which are independent, and clears it. */
         private boolean isIndependent(Net net, int unit, int size) {
             int row = size * WIDTH;
             for (int i = 0; i < MOST_PLACES; i++) {
@@ -1490,7 +1491,7 @@ public final class TokenSums {
             }
         }
 
-        /** The number of the marking that stands behind all others; NONE if it came one too late. */
+        /** The number of the marking that stands behind all others; NONE if it comes too late. */
         private int findOrAdd(int source, int step) {
             int slot = slotOf(size * MOST_PLACES);
             for (int turn = 0; turn < TABLE_SIZE && table[slot] != NONE; turn++) {
@@ -1836,8 +1837,8 @@ public final class TokenSums {
                         || small.allOfStep(small.gives, s) != 1) {
                     continue;
                 }
-                int p = Integer.numberOfTrailingZeros(small.takenFrom(s));
-                int q = Integer.numberOfTrailingZeros(small.givenTo(s));
+                int p = bitAt(small.takenFrom(s), 0);
+                int q = bitAt(small.givenTo(s), 0);
                 if (p != q && small.hasPlace(p) && small.hasPlace(q)
                         && small.onlyStepWith(small.takes, p) == s && canJoin(p, q)) {
                     small.held[q] += small.held[p];
