@@ -1338,8 +1338,18 @@ public final class TokenSums {
                     }
                 }
             }
+            return canBeWhole();
+        }
+
+        /** Whether each row for itself can be met by whole numbers, be they below 0. */
+        private boolean canBeWhole() {
             for (int r = 0; r < MOST_PLACES; r++) {
-                if ((used >> r & 1) == 0 && rows[r * WIDTH + MOST_STEPS] != 0) {
+                long common = 0;
+                for (int s = 0; s < MOST_STEPS; s++) {
+                    common = commonDivisor(common, rows[r * WIDTH + s]);
+                }
+                long all = rows[r * WIDTH + MOST_STEPS];
+                if (common == 0 ? all != 0 : all % common != 0) {
                     return false;
                 }
             }
@@ -1358,7 +1368,7 @@ public final class TokenSums {
         // Counts are tried by numbers and kept only if there are fewer in all: so of like ones the
         // first stays.
         private void seek(Net net, int step, int done) {
-            if (done > limit) {
+            if (done > limit || !canStillBe(step, limit - done)) {
                 return;
             }
             if (step >= MOST_STEPS) {
@@ -1379,17 +1389,43 @@ public final class TokenSums {
             }
         }
 
+        /** Whether so many steps more, none before this one, are enough for each row to be met. */
+        private boolean canStillBe(int step, int more) {
+            for (int s = step; s < MOST_STEPS; s++) {
+                if (rowOf[s] == NONE) {
+                    continue;
+                }
+                int row = rowOf[s] * WIDTH;
+                long low = 0;
+                long high = 0;
+                for (int t = step; t <= s; t++) {
+                    low = Math.min(low, rows[row + t]);
+                    high = Math.max(high, rows[row + t]);
+                }
+                long missing = missingIn(row, step);
+                if (missing < low * more || missing > high * more) {
+                    return false;
+                }
+            }
+            return true;
+        }
+
+        private long missingIn(int row, int step) {
+            long missing = rows[row + MOST_STEPS];
+            for (int s = 0; s < step; s++) {
+                missing -= rows[row + s] * tried[s];
+            }
+            return missing;
+        }
+
         private int countByRow(int step) {
             int row = rowOf[step] * WIDTH;
             long own = rows[row + step];
-            long rest = rows[row + MOST_STEPS];
-            for (int s = 0; s < step; s++) {
-                rest -= rows[row + s] * tried[s];
-            }
-            if (own == 0 || rest % own != 0) {
+            long missing = missingIn(row, step);
+            if (own == 0 || missing % own != 0) {
                 return NONE;
             }
-            long n = rest / own;
+            long n = missing / own;
             return n >= 0 && n <= MOST_COUNTED ? (int) n : NONE;
         }
 

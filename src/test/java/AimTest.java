@@ -144,6 +144,13 @@ public final class AimTest {
         due.is("counts(-1), k is not aimed at", x.counts(-1), NONE);
         x.aim(0, 1);
         due.is("order(0) with k", x.order(0), 0);
+        // Two ways to the same end that leads nowhere.
+        TokenSums z = Due.net("place k; place a; place b; place c; step s gives a; step t gives b; step u takes k gives k gives c;");
+        z.aim(1, 2);
+        z.aim(2, 2);
+        z.aim(3, 1);
+        counts(due, z, 2, 2, 1);
+        due.is("order(0), by any way", z.order(0), -2);
         // Other, longer counts would have an order: it is of COUNTS alone that order tells.
         TokenSums y = Due.net("place a; place b; step s takes a gives a gives b; step t gives a; step u takes a;");
         y.aim(1, 1);

@@ -72,8 +72,8 @@ public final class RandomCallsTest {
     // ---- nets
 
     private String netText() {
-        int places = random.nextInt(8) == 0 ? random.nextInt(11) : 1 + random.nextInt(7);
-        int steps = random.nextInt(8) == 0 ? random.nextInt(9) : 1 + random.nextInt(6);
+        int places = size(10, 7);
+        int steps = size(8, 6);
         int shape = random.nextInt(4);
         StringBuilder text = new StringBuilder();
         for (int p = 0; p < places; p++) {
@@ -95,6 +95,15 @@ public final class RandomCallsTest {
             text.append(';');
         }
         return text.toString();
+    }
+
+    /** The ends, none and as many as there can be, come often enough to be met. */
+    private int size(int most, int usual) {
+        switch (random.nextInt(12)) {
+            case 0: return most;
+            case 1: return random.nextInt(most + 1);
+            default: return 1 + random.nextInt(usual);
+        }
     }
 
     /** Each step moves from one place to the next, now and then with something beside it. */

@@ -18,6 +18,7 @@ public final class ReduceTest {
         firstOfThem(due);
         reduced(due);
         become(due);
+        largest(due);
         wrong(due);
         due.close();
     }
@@ -112,6 +113,14 @@ public final class ReduceTest {
     }
 
     private static void tooMuch(Due due) {
+        // The same with place 0 as p, as y, and with step 0 as the one that gives.
+        rules(due, "place p; place x 2; place y; step s takes 2 x gives p gives y; step t takes p gives 2 y; step w takes 3 y gives 2 x;", r(5, 0, 1));
+        rules(due, "place y; place x 2; place p; step s takes 2 x gives p gives 2 y; step t takes p gives 2 y; step w takes 3 y gives 2 x;");
+        rules(due, "place x 2; place y; place p; step t takes 2 x gives 2 p gives y; step s takes p gives y; step w takes 3 y gives 2 x;", r(6, 2, 1));
+        rules(due, "place x 2; place y; place p; step t takes 2 x gives 2 p gives 2 y; step s takes p gives y; step w takes 3 y gives 2 x;");
+        TokenSums z = Due.net("place x 2; place y; place p; step t takes 2 x gives 2 p gives y; step s takes p gives y; step w takes 3 y gives 2 x;");
+        due.is("become()", z.become(), 1);
+        due.is("arc(0,1,1)", z.arc(0, 1, 1), 3);
         // Rule 5: s would give 4 to y.
         rules(due, "place x 2; place y; place p; step s takes 2 x gives p gives 2 y; step t takes p gives 2 y; step w takes 3 y gives 2 x;");
         // Rule 6: t would give 4 to y.
@@ -193,6 +202,44 @@ public final class ReduceTest {
         due.is("counts(-1): z is not aimed at", x.counts(-1), NONE);
         due.is("siphons(0) undone", x.siphons(0), 2);
         due.is("sums(0) undone", x.sums(0), 2);
+    }
+
+    /** As many places and steps as there can be: all but one place and, of the steps, all go. */
+    private static void largest(Due due) {
+        StringBuilder text = new StringBuilder();
+        for (int i = 0; i < 10; i++) {
+            text.append("place ").append((char) ('a' + i)).append(" 1;");
+        }
+        for (int i = 0; i < 8; i++) {
+            text.append("step ").append((char) ('p' + i)).append(" takes ").append((char) ('a' + i)).append(" gives ").append((char) ('b' + i)).append(';');
+        }
+        TokenSums x = Due.net(text.toString());
+        due.is("kind(0)", x.kind(0), 1);
+        due.is("kind(1)", x.kind(1), 0);
+        due.is("kind(2)", x.kind(2), 1);
+        due.is("can()", x.can(), 255);
+        due.is("about(4)", x.about(4), 10);
+        due.is("graph(1)", x.graph(1), 1);
+        due.is("live(7)", x.live(7), 0);
+        // j is idle at once; then a to h are joined to i, one by one, which is idle then.
+        due.is("reduce()", x.reduce(), 10);
+        due.is("rule(0,0)", x.rule(0, 0), 3);
+        due.is("rule(0,1)", x.rule(0, 1), 9);
+        for (int i = 0; i < 8; i++) {
+            due.is("rule(" + (i + 1) + ",0)", x.rule(i + 1, 0), 6);
+            due.is("rule(" + (i + 1) + ",1)", x.rule(i + 1, 1), i);
+            due.is("rule(" + (i + 1) + ",2)", x.rule(i + 1, 2), i);
+        }
+        due.is("rule(9,1)", x.rule(9, 1), 8);
+        due.is("rule(10,0)", x.rule(10, 0), NONE);
+        due.is("become()", x.become(), 10);
+        due.is("about(2)", x.about(2), 0);
+        due.is("about(3)", x.about(3), 0);
+        due.is("can()", x.can(), 0);
+        due.is("kind(0)", x.kind(0), 1);
+        due.is("undo()", x.undo(), true);
+        due.is("tokens(9)", x.tokens(9), 1);
+        due.is("can()", x.can(), 255);
     }
 
     private static void wrong(Due due) {

@@ -27,6 +27,23 @@ public final class TextTest {
         due.is("fault(2)", x.fault(2), NONE);
         due.is("undo()", x.undo(), false);
         due.is("NONE", NONE, -1);
+        // Each on an object of its own: nothing has been worked out ahead.
+        due.is("sums(0)", new TokenSums().sums(0), 0);
+        due.is("covered(1)", new TokenSums().covered(1), 0);
+        due.is("siphons(0)", new TokenSums().siphons(0), 0);
+        due.is("siphons(1)", new TokenSums().siphons(1), 0);
+        due.is("graph(0)", new TokenSums().graph(0), 1);
+        due.is("graph(1)", new TokenSums().graph(1), 0);
+        due.is("graph(3)", new TokenSums().graph(3), 0);
+        due.is("graph(4)", new TokenSums().graph(4), 1);
+        due.is("reaches()", new TokenSums().reaches(), 0);
+        due.is("counts(-1)", new TokenSums().counts(-1), 0);
+        due.is("order(0)", new TokenSums().order(0), NONE);
+        due.is("reduce()", new TokenSums().reduce(), 0);
+        due.is("reduced(2)", new TokenSums().reduced(2), 1);
+        due.is("become()", new TokenSums().become(), NONE);
+        due.is("can()", new TokenSums().can(), 0);
+        due.is("net()", new TokenSums().net(), 0);
     }
 
     private static void tape(Due due) {
@@ -48,6 +65,7 @@ public final class TextTest {
         due.is("net() of blanks", x.net(), 0);
         due.is("about(6) behind net()", x.about(6), 0);
         due.is("end(1) behind net()", x.end(1), NONE);
+        due.is("end(0) behind net()", x.end(0), 0);
 
         // The highest byte comes first: "plac" "e a " "7;\n\n" and the rest cut.
         due.is("feed", x.feed(0x706c6163, 0x65206120, 0x373b0a0a, 0x80818283, -1), 20);
