@@ -1,7 +1,19 @@
 import java.nio.charset.StandardCharsets;
+import java.util.List;
 
 /** What the tests share: texts fed to an object, answers held against those that are due. */
 final class Due {
+    /** What a call that must throw NoSuchElementException is held against. */
+    static final long THROWN = Long.MIN_VALUE + 1;
+
+    interface Maker {
+        TokenSums make();
+    }
+
+    interface Call {
+        long on(TokenSums x);
+    }
+
     private final String name;
     private int wrong = 0;
     private int asked = 0;
@@ -22,24 +34,53 @@ final class Due {
         is(call, got ? 1 : 0, want ? 1 : 0);
     }
 
-    void noSupport(TokenSums x, int what, int k) {
-        boolean thrown = false;
-        try {
-            x.support(what, k);
-        } catch (java.util.NoSuchElementException e) {
-            thrown = true;
+    /** A call that is refused: what it answers, and that it changes nothing. */
+    void nothing(String call, Maker maker, Call refused, long want) {
+        TokenSums x = maker.make();
+        is(call, refused.on(x), want);
+        same(call + " changes nothing", Look.at(x, true), Look.at(maker.make(), true));
+    }
+
+    /** The same of a call that answers NONE. */
+    void nothing(String call, Maker maker, Call refused) {
+        nothing(call, maker, refused, TokenSums.NONE);
+    }
+
+    void same(String call, List<String> got, List<String> want) {
+        asked++;
+        for (int i = 0; i < Math.max(got.size(), want.size()); i++) {
+            String g = i < got.size() ? got.get(i) : "nothing";
+            String w = i < want.size() ? want.get(i) : "nothing";
+            if (!g.equals(w)) {
+                wrong++;
+                System.out.println(name + ": " + call + ": " + g + ", due is " + w);
+                return;
+            }
         }
-        is("support(" + what + ", " + k + ") throws", thrown, true);
+    }
+
+    static long support(TokenSums x, int what, int k) {
+        try {
+            return x.support(what, k);
+        } catch (java.util.NoSuchElementException e) {
+            return THROWN;
+        }
+    }
+
+    static long siphon(TokenSums x, int what, int k) {
+        try {
+            return x.siphon(what, k);
+        } catch (java.util.NoSuchElementException e) {
+            return THROWN;
+        }
+    }
+
+    void noSupport(TokenSums x, int what, int k) {
+        is("support(" + what + ", " + k + ") throws", support(x, what, k), THROWN);
     }
 
     void noSiphon(TokenSums x, int what, int k) {
-        boolean thrown = false;
-        try {
-            x.siphon(what, k);
-        } catch (java.util.NoSuchElementException e) {
-            thrown = true;
-        }
-        is("siphon(" + what + ", " + k + ") throws", thrown, true);
+        is("siphon(" + what + ", " + k + ") throws", siphon(x, what, k), THROWN);
     }
 
     /** A text that must be refused with this fault at this byte. */
