@@ -236,6 +236,12 @@ public final class AimEdgesTest {
         z.aim(1, 1);
         z.aim(2, 2);
         order(due, z, 1, 1, 0);
+        // t needs u ahead of it, and the key that s takes: u, t, s, though s, u and u, s lead to an end.
+        TokenSums w = Due.net("place key 1;place m;place n;place q;step s takes key gives q;step t takes key takes m gives key gives n;step u gives m;");
+        w.aim(2, 1);
+        w.aim(3, 1);
+        counts(due, w, 1, 1, 1);
+        order(due, w, 2, 1, 0);
     }
 
     // Promise 29: "The i-th STEP (0 ..) of ORDER; .. NONE if there is none such."
@@ -262,6 +268,7 @@ public final class AimEdgesTest {
             due.nothing("order(" + i + ")", AimEdgesTest::locked, t -> t.order(i), -2);
         }
         TokenSums x = locked();
+        due.is("order(0) without the key", x.order(0), -2);
         x.aim(0, 1);
         noCounts(due, x);
         x.set(0, 1);

@@ -20,13 +20,26 @@ final class Look {
             look.see("fault(0)", x.fault(0));
             look.see("fault(1)", x.fault(1));
         }
-        look.seeNet();
-        look.seeWeightsAndSets();
-        look.seeAhead();
+        look.seeAll();
         look.seeAims();
         look.seePast();
         look.seeTape();
         return look.lines;
+    }
+
+    /** Asks all that can be asked without a change. */
+    static List<String> ask(TokenSums x) {
+        Look look = new Look(x);
+        look.seeAll();
+        return look.lines;
+    }
+
+    private void seeAll() {
+        seeNet();
+        seeWeights();
+        seeSets();
+        seeAhead();
+        seeGraph();
     }
 
     private void see(String call, long answer) {
@@ -56,13 +69,23 @@ final class Look {
         }
     }
 
-    private void seeWeightsAndSets() {
+    private void seeWeights() {
         for (int what = 0; what < 2; what++) {
             see("sums(" + what + ")", x.sums(what));
             see("covered(" + what + ")", x.covered(what));
-            see("siphons(" + what + ")", x.siphons(what));
         }
         see("value(0)", x.value(0));
+        for (int p = 0; p < 10; p++) {
+            see("bound(" + p + ")", x.bound(p));
+        }
+    }
+
+    private void seeSets() {
+        for (int what = 0; what < 2; what++) {
+            see("siphons(" + what + ")", x.siphons(what));
+            see("siphon(" + what + ", 0)", Due.siphon(x, what, 0));
+            see("greatest(" + what + ", -1)", x.greatest(what, -1));
+        }
         see("unguarded(-1)", x.unguarded(-1));
         see("lost()", x.lost());
     }
@@ -71,12 +94,21 @@ final class Look {
         see("counts(-1)", x.counts(-1));
         see("order(0)", x.order(0));
         see("reaches()", x.reaches());
-        for (int what = 0; what < 5; what++) {
-            see("graph(" + what + ")", x.graph(what));
-        }
         see("reduce()", x.reduce());
         for (int what = 0; what < 6; what++) {
             see("reduced(" + what + ")", x.reduced(what));
+        }
+    }
+
+    private void seeGraph() {
+        for (int what = 0; what < 5; what++) {
+            see("graph(" + what + ")", x.graph(what));
+        }
+        for (int s = 0; s < 8; s++) {
+            see("live(" + s + ")", x.live(s));
+        }
+        for (int p = 0; p < 10; p++) {
+            see("most(" + p + ")", x.most(p));
         }
     }
 

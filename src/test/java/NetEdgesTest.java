@@ -215,6 +215,10 @@ public final class NetEdgesTest {
                 + "step s takes a gives a;step t takes a gives a;step u takes a gives a;step v takes a gives a;";
         kind(due, 0, seven + "step w takes a gives a;", 1);
         kind(due, 0, seven + "step w takes a gives 2 a;", 0);
+        // With ten places, too.
+        String ten = "place b;place c;place d;place e;place f;place g;place h;place i;place j;";
+        kind(due, 0, seven + ten + "step w takes j gives j;", 1);
+        kind(due, 0, seven + ten + "step w takes j gives j gives i;", 0);
     }
 
     // Promise 9: "1: each PLACE has one STEP that gives it 1 and one that takes 1 from it (at least one
@@ -240,6 +244,11 @@ public final class NetEdgesTest {
         }
         kind(due, 1, ten + " takes j gives j;", 1);
         kind(due, 1, ten + " takes j;", 0);
+        // The last of eight steps counts as well.
+        String seven = "place a;step p takes a;step q;step r;step s;step t;step u;step v;";
+        kind(due, 1, seven + "step w gives a;", 1);
+        kind(due, 1, seven + "step w gives a takes a;", 0);
+        kind(due, 1, seven + "step w;", 0);
     }
 
     // Promise 9: "2: each two STEPS that take from some PLACE both take just alike".

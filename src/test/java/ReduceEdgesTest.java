@@ -182,6 +182,8 @@ public final class ReduceEdgesTest {
         due.is("arc(0, 0, 1)", x.arc(0, 0, 1), 1);
         due.is("arc(0, 1, 1)", x.arc(0, 1, 1), 3);
         due.is("arc(2, 1, 0)", x.arc(2, 1, 0), 3);
+        // The same with p as place 0, t as step 0.
+        rules(due, "place p;place x 2;place y;step t takes p gives 2 y;step s takes 2 x gives p gives y;step w takes 3 y gives 2 x;", r(5, 0, 0));
         // t may give nothing.
         rules(due, five("", "p gives 3 y", "p", ""), r(5, 2, 1));
     }
@@ -248,6 +250,11 @@ public final class ReduceEdgesTest {
         rules(due, six("", "", "takes p gives y", "2 p gives 2 y", ""));
         rules(due, six("", "", "takes p gives y", "2 p gives y", "gives 3 p gives y"));
         rules(due, six("", "", "takes p gives y", "2 p gives y", "gives 2 p gives y"), r(6, 2, 0));
+        // The same with the STEP that would give 3 or 4 as step 0.
+        String head = "place x 2;place y;place p;step t takes 2 x gives 2 p gives ";
+        String tail = "y;step s takes p gives y;step w takes 3 y gives 2 x;";
+        rules(due, head + tail, r(6, 2, 1));
+        rules(due, head + "2 " + tail);
     }
 
     // "6 neither, if q had more than 999 then."
@@ -361,6 +368,39 @@ public final class ReduceEdgesTest {
         due.is("about(2)", x.about(2), 0);
         due.is("about(3): the last step stays", x.about(3), 1);
         due.is("become() again", x.become(), NONE);
+        tenPlaces(due);
+        eightSteps(due);
+    }
+
+    /** c to i (2 .. 8), which no step knows, go first; then j by rule 5, or a step by rule 4. */
+    private static void tenPlaces(Due due) {
+        String ten = "place a 2;place b;place c;place d;place e;place f;place g;place h;place i;place j;";
+        String five = ten + "step s takes 2 a gives j gives b;step v takes 3 b gives 3 a;step t takes j gives 2 b;step w takes 2 b gives 3 a;";
+        int[][] six = {r(1, 3, NONE), r(1, 4, NONE), r(1, 5, NONE), r(1, 6, NONE), r(1, 7, NONE), r(1, 8, NONE)};
+        rules(due, five, six[0], six[1], six[2], six[3], six[4], six[5], r(3, 2, NONE), r(5, 9, 2));
+        TokenSums x = Due.net(five);
+        due.is("become()", x.become(), 8);
+        due.is("arc(0, 1, 1)", x.arc(0, 1, 1), 3);
+        due.is("arc(1, 0, 1) stays", x.arc(1, 0, 1), 3);
+        due.is("arc(3, 0, 1) stays", x.arc(3, 0, 1), 3);
+        rules(due, ten + "step u takes a gives a;step v takes 2 a gives 3 b;step w takes 3 b gives 2 a;",
+                six[0], six[1], six[2], six[3], six[4], six[5], r(1, 9, NONE), r(3, 2, NONE), r(4, NONE, 0));
+    }
+
+    /** A line of nine places: each goes into the next by rule 6, the last is idle then. */
+    private static void eightSteps(Due due) {
+        StringBuilder text = new StringBuilder();
+        int[][] want = new int[9][];
+        for (int i = 0; i < 9; i++) {
+            text.append("place ").append((char) ('a' + i)).append(" 1;");
+        }
+        for (int i = 0; i < 8; i++) {
+            text.append("step ").append((char) ('p' + i)).append(" takes ").append((char) ('a' + i));
+            text.append(" gives ").append((char) ('b' + i)).append(';');
+            want[i] = r(6, i, i);
+        }
+        want[8] = r(3, 8, NONE);
+        rules(due, text.toString(), want);
     }
 
     // Promise 37: "NONE if there is none such, or for another what."

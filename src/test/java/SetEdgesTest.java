@@ -88,6 +88,9 @@ public final class SetEdgesTest {
         due.is("d alone is none", x.isSiphon(0, 8), 0);
         sets(due, Due.net("place a;place b;place c;step s takes a gives b;step t takes b gives c;step u takes c gives a;"), 0, 7);
         sets(due, Due.net("place a;place b;place c;step s takes a gives b;step t takes b gives a gives c;"), 0, 3);
+        // b is one; a + b is one, too, but not least, though a alone is none.
+        sets(due, Due.net("place a;place b;step s takes b gives a;"), 0, 2);
+        sets(due, Due.net("place a;place b;step s takes a gives b;"), 1, 2);
     }
 
     // "They are numbered by bits likewise."

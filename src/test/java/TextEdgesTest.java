@@ -123,6 +123,9 @@ public final class TextEdgesTest {
         due.refused(padded("place a 7;", 900, "place b 8"), 2, 900);
         due.refused(padded("place a 7;", 899, "place b 8"), 2, 899);
         due.refused(padded("place a 7;", 900, "!"), 1, 899);
+        due.refused(padded("place a 7;", 900, "place b"), 2, 900);
+        due.refused(padded("place a 7;", 900, "place"), 2, 900);
+        due.refused(padded("place a 7;", 900, "plac"), 2, 896);
         due.refused(padded("place a 7;", 900, "place b 100;"), 4, 896);
         due.taken(padded("", 900, ""), 0);
     }
@@ -192,8 +195,11 @@ public final class TextEdgesTest {
     /** An object with acts, an AIM, a become() and a fault behind it. */
     private static TokenSums used() {
         TokenSums x = Due.net("place a 3;place b;place c;step s takes a gives b;step t takes b gives 2 c;");
+        Look.ask(x);
         x.fire(0);
-        x.aim(2, 4);
+        for (int p = 0; p < 3; p++) {
+            x.aim(p, 4 + p);
+        }
         x.set(1, 9);
         x.become();
         Due.lay(x, "place !");
@@ -203,13 +209,25 @@ public final class TextEdgesTest {
 
     // Promise 4: "is the NET (all TOKENS as told, AIM all 0, no ACTS are kept): how many PLACES".
     private static void asTold(Due due) {
-        String[] texts = {"", "place a;", "place a 9;place b 99;step s takes a gives b;step t;", "step s;"};
-        int[] places = {0, 1, 2, 0};
+        String[] texts = {"", "place a;", "place a 9;place b 99;step s takes a gives b;step t;", "step s;",
+            "place a;place b;place c;place d;step s takes a gives b;step t takes b gives 2 c;step u takes 3 c gives 3 a;",
+            "place a 5;place b;", "place a 5;place b;step s takes a gives b;"};
+        int[] places = {0, 1, 2, 0, 4, 2, 2};
         for (int i = 0; i < texts.length; i++) {
             TokenSums x = used();
             Due.lay(x, texts[i]);
             due.is("net() of '" + texts[i] + "'", x.net(), places[i]);
             due.same("net() of '" + texts[i] + "' on a used object", Look.at(x, true), Look.at(Due.net(texts[i]), true));
+        }
+        // From each of them to each other, all asked ahead: nothing of the former net is left.
+        for (String from : texts) {
+            for (int i = 0; i < texts.length; i++) {
+                TokenSums x = Due.net(from);
+                Look.ask(x);
+                Due.lay(x, texts[i]);
+                due.is("net() of '" + texts[i] + "'", x.net(), places[i]);
+                due.same("net() of '" + texts[i] + "' behind '" + from + "'", Look.at(x, true), Look.at(Due.net(texts[i]), true));
+            }
         }
         TokenSums y = Due.net("place a 3;step s takes a;");
         y.aim(0, 7);
@@ -511,6 +529,12 @@ public final class TextEdgesTest {
                 // 28 bytes end in "a", which is a NAME, but no PLACE's.
                 due.refused(part, n == 28 ? 3 : 2, at[n]);
             }
+            // The same if the rest was on the TAPE: end(n) has cut it off.
+            TokenSums x = laid(text);
+            due.is("end(" + n + ")", x.end(n), n);
+            due.is("net() behind end(" + n + ")", x.net(), at[n] >= 0 ? NONE : n == 0 ? 0 : 1);
+            due.is("fault(0) behind end(" + n + ")", x.fault(0), at[n] < 0 ? 0 : n == 28 ? 3 : 2);
+            due.is("fault(1) behind end(" + n + ")", x.fault(1), at[n]);
         }
         due.refused("place ab  ", 2, 10);
         due.refused("place ab\n\n\n", 2, 11);

@@ -242,6 +242,10 @@ public final class WeightEdgesTest {
         due.is("value(0) of the most", x.value(0), 4995);
         x.undo();
         due.is("value(0) undone", x.value(0), 2997);
+        TokenSums y = Due.net("place a 2;place b 4;place c 3;step s takes a gives b gives c;");
+        due.is("value(0) of two", y.value(0), 6);
+        due.is("value(1) of two", y.value(1), 5);
+        due.is("value(2) of two", y.value(2), NONE);
     }
 
     // Promise 19: "NONE if there is none such."
