@@ -219,6 +219,13 @@ public final class TextEdgesTest {
             due.is("net() of '" + texts[i] + "'", x.net(), places[i]);
             due.same("net() of '" + texts[i] + "' on a used object", Look.at(x, true), Look.at(Due.net(texts[i]), true));
         }
+        for (String text : texts) {
+            TokenSums x = new TokenSums();
+            Look.ask(x);
+            Due.lay(x, text);
+            x.net();
+            due.same("net() of '" + text + "' on a new object that was asked all", Look.at(x, true), Look.at(Due.net(text), true));
+        }
         // From each of them to each other, all asked ahead: nothing of the former net is left.
         for (String from : texts) {
             for (int i = 0; i < texts.length; i++) {
