@@ -639,6 +639,24 @@ public final class TokenSums {
             return gives[arc] - takes[arc];
         }
 
+        private boolean changesNothing(int step) {
+            for (int p = 0; p < toldPlaces; p++) {
+                if (change(step, p) != 0) {
+                    return false;
+                }
+            }
+            return true;
+        }
+
+        private boolean changeAlike(int s, int t) {
+            for (int p = 0; p < toldPlaces; p++) {
+                if (change(s, p) != change(t, p)) {
+                    return false;
+                }
+            }
+            return true;
+        }
+
         private int allTokens() {
             int all = 0;
             for (int p = 0; p < toldPlaces; p++) {
@@ -1271,6 +1289,7 @@ public final class TokenSums {
         private final byte[] failed = new byte[MOST_PARTS];
         private int total = NONE;
         private int limit = 0;
+        private int useful = 0;
         private int countedState = NONE;
         private boolean isLined = false;
         private boolean hasLine = false;
@@ -1304,10 +1323,31 @@ public final class TokenSums {
             isLined = false;
             total = NONE;
             limit = MOST_COUNTED;
+            findUseful(net);
             layRows(net);
             if (solveRows()) {
-                seek(net, 0, 0);
+                seek(0, 0);
             }
+        }
+
+        private void findUseful(Net net) {
+            useful = 0;
+            for (int s = 0; s < MOST_STEPS; s++) {
+                if (isUseful(net, s)) {
+                    useful |= 1 << s;
+                }
+            }
+        }
+
+        // Doing what changes nothing makes no counts fewer; and of steps that change the same, the
+        // first counts by numbers do the last one alone.
+        private static boolean isUseful(Net net, int step) {
+            for (int t = step + 1; t < MOST_STEPS; t++) {
+                if (net.changeAlike(step, t)) {
+                    return false;
+                }
+            }
+            return !net.changesNothing(step);
         }
 
         private void layRows(Net net) {
@@ -1367,7 +1407,7 @@ public final class TokenSums {
 
         // Counts are tried by numbers and kept only if there are fewer in all: so of like ones the
         // first stays.
-        private void seek(Net net, int step, int done) {
+        private void seek(int step, int done) {
             if (done > limit || !canStillBe(step, limit - done)) {
                 return;
             }
@@ -1378,14 +1418,14 @@ public final class TokenSums {
                 return;
             }
             int least = 0;
-            int most = net.hasStep(step) ? MOST_COUNTED : 0;
+            int most = (useful >> step & 1) == 1 ? MOST_COUNTED : 0;
             if (rowOf[step] != NONE) {
                 least = countByRow(step);
                 most = least;
             }
             for (int n = least; n >= 0 && n <= most && done + n <= limit; n++) {
                 tried[step] = n;
-                seek(net, step + 1, done + n);
+                seek(step + 1, done + n);
             }
         }
 
@@ -1820,20 +1860,11 @@ public final class TokenSums {
                 return false;
             }
             for (int s = 0; s < small.toldSteps; s++) {
-                if (small.hasStep(s) && changesNothing(s)) {
+                if (small.hasStep(s) && small.changesNothing(s)) {
                     return note(4, NONE, s);
                 }
             }
             return false;
-        }
-
-        private boolean changesNothing(int step) {
-            for (int p = 0; p < small.toldPlaces; p++) {
-                if (small.change(step, p) != 0) {
-                    return false;
-                }
-            }
-            return true;
         }
 
         private boolean joinSteps() {
