@@ -165,7 +165,7 @@ final class Model {
         }
 
         State read() {
-            // \\z, not $: that would take a last byte 13 or 133 for an end of line.
+            // \z, not $: that would take a last byte 13 or 133 for an end of line.
             java.util.regex.Matcher m = java.util.regex.Pattern
                     .compile("[ \\n]*(?:([a-z]+)|([0-9]+)([a-z]?)|(;)|(\\z)|([\\x00-\\xff]))", java.util.regex.Pattern.DOTALL)
                     .matcher(text);
